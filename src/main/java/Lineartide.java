@@ -320,16 +320,11 @@ public final class Lineartide {
         }
 
         int nextAt(int step, int way) {
-            switch (whatAt(step)) {
-                case GIVES:
-                case GETS:
-                    return b[step];
-                case PICKS:
-                case OFFERS:
-                    return way == 0 ? a[step] : b[step];
-                default:
-                    return step;
+            if (!within(step, count) || what[step] == ENDS) {
+                return step;
             }
+            boolean chooses = what[step] == PICKS || what[step] == OFFERS;
+            return chooses && way == 0 ? a[step] : b[step];
         }
     }
 
@@ -751,7 +746,7 @@ public final class Lineartide {
         }
 
         private int taken(int op) {
-            int channel = code.channelAt(op);
+            int channel = code.aAt(op);
             int step = stepAt(op, channel);
             if (step == APART) {
                 return MIXED;
@@ -1340,9 +1335,11 @@ public final class Lineartide {
 
         private void vacate(int target) {
             if (owns(target)) {
-                endAll(target);
+                int gone = valueOf(target);
+                endLoans(gone, target);
+                endShares(gone);
                 if (kindOf(target) == AFFINE) {
-                    ledger.drop(valueOf(target));
+                    ledger.drop(gone);
                 }
             }
             clear(target);
