@@ -589,18 +589,21 @@ public final class Lineartide {
         }
     }
 
-    /** What is found ahead of the ops of one process; it is kept until the process changes. */
+    /**
+     * What is found ahead of the ops of one process; it is kept until the process changes. Ops that are come to, and
+     * those whose next ones must be looked at again, are sets of bits.
+     */
     static final class Flow {
         private final int process;
         private final Code code;
         private final Channels channels;
         private final int[] names = new int[(OPS + 1) * NAMES];
         private final int[] steps = new int[(OPS + 1) * CHANNELS];
-        private final boolean[] come = new boolean[OPS + 1];
-        private final boolean[] changed = new boolean[OPS + 1];
         private final int[] live = new int[OPS + 1];
         private final int[] nowNames = new int[NAMES];
         private final int[] nowSteps = new int[CHANNELS];
+        private int come;
+        private int changed;
         private boolean known;
         private int errorOp;
         private int firstError;
@@ -639,7 +642,7 @@ public final class Lineartide {
         }
 
         boolean isComeTo(int op) {
-            return op >= 0 && op <= OPS && come[op];
+            return op >= 0 && op <= OPS && (come >> op & 1) != 0;
         }
 
         int nameAt(int op, int name) {
@@ -655,8 +658,8 @@ public final class Lineartide {
         }
 
         private void followAll() {
-            Arrays.fill(come, false);
-            Arrays.fill(changed, false);
+            come = 0;
+            changed = 0;
             Arrays.fill(nowNames, NOTHING);
             for (int i = 0; i < CHANNELS; i++) {
                 nowSteps[i] = channels.sideOf(i, process) == NONE ? NONE : 0;
@@ -666,8 +669,8 @@ public final class Lineartide {
             for (int round = 0; round < ROUNDS && more; round++) {
                 more = false;
                 for (int op = 0; op < code.size() && op < OPS; op++) {
-                    if (changed[op]) {
-                        changed[op] = false;
+                    if ((changed >> op & 1) != 0) {
+                        changed &= ~(1 << op);
                         more = true;
                         follow(op);
                     }
@@ -760,8 +763,8 @@ public final class Lineartide {
             if (!within(op, OPS + 1)) {
                 return;
             }
-            boolean first = !come[op];
-            come[op] = true;
+            boolean first = !isComeTo(op);
+            come |= 1 << op;
             boolean differs = first;
             for (int i = 0; i < NAMES; i++) {
                 int was = nameAt(op, i);
@@ -775,7 +778,9 @@ public final class Lineartide {
                 steps[op * CHANNELS + i] = is;
                 differs |= is != was;
             }
-            changed[op] |= differs;
+            if (differs) {
+                changed |= 1 << op;
+            }
         }
 
         private static int together(int one, int other) {
@@ -844,7 +849,7 @@ public final class Lineartide {
             errorOp = NONE;
             firstError = 0;
             for (int op = 0; op <= code.size() && op <= OPS && firstError == 0; op++) {
-                if (come[op]) {
+                if (isComeTo(op)) {
                     firstError = errorAt(op);
                 }
                 if (firstError != 0) {
@@ -1183,8 +1188,8 @@ public final class Lineartide {
         private final int[] value = new int[NAMES];
         private final int[] kind = new int[NAMES];
         private final int[] since = new int[NAMES];
-        private final boolean[] lapsed = new boolean[NAMES];
         private final int[] steps = new int[CHANNELS];
+        private int lapsed;
         private int life;
         private int broken;
         private int spot;
@@ -1195,7 +1200,7 @@ public final class Lineartide {
 
         void restart() {
             Arrays.fill(has, NOTHING);
-            Arrays.fill(lapsed, false);
+            lapsed = 0;
             Arrays.fill(steps, 0);
             life = RUNNING;
             broken = 0;
@@ -1258,7 +1263,7 @@ public final class Lineartide {
 
         /** Whether what is shared or lent holds no more. */
         boolean isLapsed(int name) {
-            return (shares(name) || borrows(name)) && lapsed[name];
+            return (shares(name) || borrows(name)) && (lapsed >> name & 1) != 0;
         }
 
         void own(int target, int newValue, int newKind) {
@@ -1329,7 +1334,7 @@ public final class Lineartide {
             if (within(target, NAMES) && within(used, NAMES)) {
                 has[target] = how;
                 value[target] = value[used];
-                lapsed[target] = isLapsed(used);
+                lapsed = isLapsed(used) ? lapsed | 1 << target : lapsed & ~(1 << target);
             }
         }
 
@@ -1361,7 +1366,7 @@ public final class Lineartide {
         private void endShares(int ended) {
             for (int i = 0; i < NAMES; i++) {
                 if (has[i] == SHARES && value[i] == ended) {
-                    lapsed[i] = true;
+                    lapsed |= 1 << i;
                 }
             }
         }
@@ -1369,7 +1374,7 @@ public final class Lineartide {
         private void endLoans(int ended, int user) {
             for (int i = 0; i < NAMES; i++) {
                 if (i != user && has[i] == BORROWS && value[i] == ended) {
-                    lapsed[i] = true;
+                    lapsed |= 1 << i;
                 }
             }
         }
