@@ -356,13 +356,13 @@ public final class OracleTest {
             + ", stuck (none, no, yes) " + java.util.Arrays.toString(STUCK) + ", runs without errors " + clean + ", most layouts " + most);
         // the comparison is worth little where a thing hardly comes up
         for (int error = Lineartide.UNLIKE; error <= Lineartide.OPEN; error++) {
-            EXPECT.due("error " + error + " came up often", true, ERRORS[error] > games / 100);
+            EXPECT.due("error " + error + " came up often", true, ERRORS[error] > games / 200);
         }
         for (int fault = Lineartide.EMPTY; fault <= Lineartide.CANCELLED; fault++) {
-            EXPECT.due("fault " + fault + " came up often", true, FAULTS[fault] > games / 100);
+            EXPECT.due("fault " + fault + " came up often", true, FAULTS[fault] > games / 200);
         }
         for (int i = 0; i < 3; i++) {
-            EXPECT.due("stuck() answered " + (i - 1) + " often", true, STUCK[i] > games / 100);
+            EXPECT.due("stuck() answered " + (i - 1) + " often", true, STUCK[i] > games / 200);
         }
         EXPECT.end();
     }
