@@ -1,48 +1,57 @@
 import java.util.ArrayList;
 import java.util.List;
+import java.util.Map;
+import java.util.Set;
+import java.util.TreeMap;
+import java.util.TreeSet;
 import java.util.function.Supplier;
 
 /**
- * What the tests of boundary cases share: each of them says first which words of the document it stands for, and
- * SentencesTest sees to it that these words stand there, and that no sentence of the promises and terms is left out.
+ * What the tests of boundary cases share. Each of them says first for which words of the document it stands, and
+ * EdgesTest sees to it that these words stand there, and that no sentence of the terms and promises is left out.
  */
 final class Edges implements Words {
     /** Numbers that are none of a few things, whatever their count from 1 to 17 is. */
     static final int[] FAR = {-1, -2, 18, 255, 256, 1 << 16, Integer.MAX_VALUE, Integer.MIN_VALUE};
 
-    private final Expect expect = new Expect();
+    /** The words that tests stand for, by sections. */
+    static final Map<String, Set<String>> SAID = new TreeMap<>();
+
+    private static final Expect EXPECT = new Expect();
     private String said = "";
 
+    /** The answers asked for from now on are due by these words. */
     void says(String section, String words) {
         said = section + ": " + words + " | ";
+        SAID.computeIfAbsent(section, s -> new TreeSet<>()).add(words);
     }
 
     void due(String what, long want, long got) {
-        expect.due(said + what, want, got);
+        EXPECT.due(said + what, want, got);
     }
 
     void due(String what, boolean want, boolean got) {
-        expect.due(said + what, want, got);
+        EXPECT.due(said + what, want, got);
     }
 
     void same(String what, String want, String got) {
-        expect.due(said + what + (want.equals(got) ? "" : "\n due    " + want + "\n answer " + got), true, want.equals(got));
+        EXPECT.due(said + what + (want.equals(got) ? "" : "\n due    " + want + "\n answer " + got), true, want.equals(got));
     }
 
     void bounds(String what, Expect.Call call) {
-        expect.bounds(said + what, call);
+        EXPECT.bounds(said + what, call);
     }
 
     void argument(String what, Expect.Call call) {
-        expect.argument(said + what, call);
+        EXPECT.argument(said + what, call);
     }
 
     void state(String what, Expect.Call call) {
-        expect.state(said + what, call);
+        EXPECT.state(said + what, call);
     }
 
-    void end() {
-        expect.end();
+    static void end() {
+        EXPECT.end();
     }
 
     /** Numbers that are none of this many things, numbered from 0: those right beside them, and far ones. */

@@ -2,7 +2,7 @@
  * The boundary cases of being stuck: "Being stuck" and the promise 12. Each test says by its first line for which words
  * of the document it stands.
  */
-public final class StuckEdgesTest implements Words {
+final class StuckEdges implements Words {
     private static final Edges EDGES = new Edges();
 
     private static void makes(Lineartide x, int process, int count) {
@@ -278,7 +278,7 @@ public final class StuckEdgesTest implements Words {
         EDGES.state("an error, and more than 1000 layouts", many::stuck);
     }
 
-    public static void main(String[] args) {
+    static void all() {
         anyOrder();
         eachWay();
         room();
@@ -286,6 +286,5 @@ public final class StuckEdgesTest implements Words {
         layouts();
         tooMany();
         errors();
-        EDGES.end();
     }
 }

@@ -6,7 +6,7 @@ import java.util.function.Supplier;
  * The boundary cases of what is told: "What it is", "Terms" up to the processes, and the promises 1 to 5. Each test
  * says by its first line for which words of the document it stands.
  */
-public final class TellingEdgesTest implements Words {
+final class TellingEdges implements Words {
     private static final Edges EDGES = new Edges();
     private static final int LOW = Integer.MIN_VALUE, HIGH = Integer.MAX_VALUE;
 
@@ -837,7 +837,7 @@ public final class TellingEdgesTest implements Words {
         EDGES.due("the next one is the first", 0, z.op(1, STOP, 0, 0));
     }
 
-    public static void main(String[] args) {
+    static void all() {
         lastOf512Calls();
         constants();
         refusedCalls();
@@ -865,6 +865,5 @@ public final class TellingEdgesTest implements Words {
         opArguments();
         opAnswers();
         unops();
-        EDGES.end();
     }
 }

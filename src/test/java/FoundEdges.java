@@ -2,7 +2,7 @@
  * The boundary cases of what is found ahead: "What is found" and the promises 6 to 11, and what "Processes" says about
  * single ops, as far as it is found ahead. Each test says by its first line for which words of the document it stands.
  */
-public final class FoundEdgesTest implements Words {
+final class FoundEdges implements Words {
     private static final Edges EDGES = new Edges();
 
     /** All that a variable can be; 11 and 21 are of the variable 1, 12 and 22 of the variable 2. */
@@ -301,7 +301,7 @@ public final class FoundEdgesTest implements Words {
                 boolean five = one == 3 || other == 3 || one == 5 || other == 5;
                 int want;
                 if (one == other) {
-                    EDGES.says("What is found", "what is the same on both stays;");
+                    EDGES.says("What is found", "Where ways come together: what is the same on both stays;");
                     want = one;
                 } else if (five) {
                     EDGES.says("What is found", "of 3 and another one, and of 5 and any, comes 5;");
@@ -466,6 +466,16 @@ public final class FoundEdgesTest implements Words {
         Lineartide others = Edges.tell(new Lineartide(), 0, GIVES, 0, 0);
         others.channel(0, 1, 2);
         EDGES.fine("a channel of others", others);
+    }
+
+    private static void others() {
+        EDGES.says("What is found", "For others:");
+        int[][] ops = {{JUMP, 0, 2}, {MAYBE, 0, 2}, {READ, 0, 0}, {MAKE, 1, MANY}};
+        for (int[] op : ops) {
+            Lineartide x = Edges.add(Edges.steps(PICKS, 1, 1, ENDS, 0, 0), 0, Edges.all(Edges.lot(MAKE, 0, LINEAR), op, Edges.lot(FREE, 0, 0, PICK, 0, 0)));
+            EDGES.fine("op " + op[0] + " minds neither LINEAR nor a channel that is open", x);
+        }
+        EDGES.fine("STOP minds no channel that is not there", Edges.ops(STOP, 2, 5));
     }
 
     private static void empty() {
@@ -840,7 +850,7 @@ public final class FoundEdgesTest implements Words {
         EDGES.due("of none", 0, new Lineartide().lives(2, 0));
     }
 
-    public static void main(String[] args) {
+    static void all() {
         beginning();
         eachState();
         staysSo();
@@ -859,6 +869,7 @@ public final class FoundEdgesTest implements Words {
         whoHasErrors();
         unlike();
         endings();
+        others();
         empty();
         kinds();
         full();
@@ -873,6 +884,5 @@ public final class FoundEdgesTest implements Words {
         namesAsked();
         channelsAsked();
         livesAsked();
-        EDGES.end();
     }
 }
