@@ -696,6 +696,16 @@ final class FoundEdges implements Words {
         EDGES.due("then those of the used one", 2, Edges.ops(Edges.all(first, Edges.lot(READ, 2, 0))).borrower(0));
         EDGES.due("the used one itself", 5, Edges.ops(MAKE, 0, AFFINE, LEND, 5, 0, MOVE, 0, 5).borrower(0));
         EDGES.says("Promise 8", "Returns the variable.");
+        for (int owner = 0; owner < 6; owner++) {
+            for (int name = 0; name < 6; name++) {
+                for (int what = SHARE; what <= LEND && name != owner; what++) {
+                    int[] lent = {MAKE, owner, AFFINE, what, name, owner};
+                    EDGES.borrowed("of the used one", Edges.ops(Edges.all(lent, Edges.lot(WRITE, owner, 0, READ, name, 0))), 2, name);
+                    EDGES.borrowed("of the target", Edges.ops(Edges.all(lent, Edges.lot(MAKE, owner, 0, READ, name, 0))), 2, name);
+                    EDGES.borrowed("the used one", Edges.ops(Edges.all(lent, Edges.lot(MOVE, owner, name))), 2, name);
+                }
+            }
+        }
         for (int p = 0; p < 3; p++) {
             Lineartide x = Edges.add(new Lineartide(), p, MAKE, 5, AFFINE, LEND, 0, 5, READ, 5, 0, READ, 0, 0);
             EDGES.due("the variable 0 of the process " + p, 0, x.borrower(p));
@@ -850,6 +860,46 @@ final class FoundEdges implements Words {
         EDGES.due("of none", 0, new Lineartide().lives(2, 0));
     }
 
+    private static void askedAgain() {
+        EDGES.says("Promise 11", "Returns the variables that live ahead of an op, as a set of bits; 0 at the end.");
+        Lineartide x = Edges.ops(READ, 0, 0, JUMP, 0, 0);
+        EDGES.due("in a loop", 1, x.lives(0, 1));
+        x.unop(0);
+        EDGES.due("at the end where an op was", 0, x.lives(0, 1));
+        x.unop(0);
+        EDGES.due("at the end that is left", 0, x.lives(0, 0));
+        Edges.add(x, 0, MAKE, 1, MANY, JUMP, 0, 0);
+        EDGES.due("in another loop in its place", 0, x.lives(0, 0));
+        EDGES.due("all around it", 0, x.lives(0, 1));
+        EDGES.says("Promise 9", "Returns as told; NONE if it cannot be come to.");
+        Lineartide y = Edges.ops(MAKE, 0, LINEAR, MAYBE, 0, 0, MAKE, 1, AFFINE, STOP, 0, 0);
+        EDGES.due("by a loop", 5, y.holds(0, 0, 0));
+        EDGES.due("behind it", 2, y.holds(0, 3, 1));
+        EDGES.due("behind STOP", NONE, y.holds(0, 4, 0));
+        y.unop(0);
+        y.unop(0);
+        y.unop(0);
+        EDGES.due("the loop is away", 0, y.holds(0, 0, 0));
+        EDGES.due("what was made stays", 3, y.holds(0, 1, 0));
+        Edges.add(y, 0, JUMP, 0, 3, MAKE, 2, MANY);
+        EDGES.due("passed by now", NONE, y.holds(0, 2, 0));
+        EDGES.due("the end, come to now", 3, y.holds(0, 3, 0));
+        EDGES.due("by one way alone", 0, y.holds(0, 3, 2));
+        EDGES.says("Promise 10", "Returns the step of a channel ahead of an op.");
+        Lineartide z = Edges.tell(new Lineartide(), 0, PICKS, 1, 1, ENDS, 0, 0);
+        Edges.add(z, 0, PICK, 1, 0);
+        z.channel(0, 1, 2);
+        EDGES.due("none of its own yet", NONE, z.at(0, 1, 0));
+        EDGES.error("nor one at all", z, 0, 0, SESSION);
+        z.channel(0, 0, 2);
+        EDGES.due("its own goes on", 1, z.at(0, 1, 1));
+        EDGES.due("from the beginning", 0, z.at(0, 0, 1));
+        EDGES.fine("and is right", z);
+        z.channel(0, 2, 0);
+        EDGES.error("another one is open", z, 0, 1, OPEN);
+        EDGES.error("for both", z, 2, 0, OPEN);
+    }
+
     static void all() {
         beginning();
         eachState();
@@ -884,5 +934,6 @@ final class FoundEdges implements Words {
         namesAsked();
         channelsAsked();
         livesAsked();
+        askedAgain();
     }
 }

@@ -137,6 +137,17 @@ final class RunEdges implements Words {
                 EDGES.due("by the way " + way + " with b " + b, way == 0 ? 2 : Math.min(b, 3), x.place(1));
             }
         }
+        for (int way = 0; way < 2; way++) {
+            Lineartide x = Edges.steps(PICKS, 1, 1, PICKS, 2, 2, ENDS, 0, 0);
+            Edges.add(x, 0, MAKE, 0, AFFINE, MAKE, 1, LINEAR, SHARE, 2, way, PICK, 0, way, READ, 2, 0);
+            Edges.add(x, 1, MAKE, 0, LINEAR, MAKE, 1, AFFINE, WAIT, 0, 15);
+            x.begin();
+            EDGES.go(x, 0, 5);
+            EDGES.go(x, 1, 3);
+            values("a way is put into no variable, nor drops one", x, 0, 0, 1, way, NONE);
+            values("nor where it comes", x, 1, 2, 3, NONE);
+            EDGES.due("nothing is dropped", 0, x.drops());
+        }
         EDGES.says("Processes", "MAYBE: it goes on with the op b, or with the next one. JUMP: it goes on with the op b. STOP: it ends.");
         for (int b = 0; b < 16; b++) {
             Lineartide x = Edges.ops(MAKE, 0, MANY, MAYBE, 0, b, JUMP, 0, b, STOP, 0, 0);
@@ -359,6 +370,9 @@ final class RunEdges implements Words {
                 }
             }
         }
+        for (int v = 0; v < 6; v++) {
+            EDGES.fault("LINEAR in the variable " + v, Edges.ops(MAKE, v, LINEAR), 2, KEPT);
+        }
         EDGES.fault("a share of LINEAR may be kept", Edges.ops(MAKE, 0, LINEAR, SHARE, 1, 0, FREE, 0, 0), 4, 0);
         Lineartide others = Edges.tell(new Lineartide(), 0, GIVES, 0, 0);
         others.channel(0, 1, 2);
@@ -394,6 +408,30 @@ final class RunEdges implements Words {
             }
             EDGES.says("Runs", "What is shared holds no more, if its value went, or if it was changed, moved, sent (but as a copy) or lent since it was shared;");
             usedByItself(kind);
+        }
+        ofEachVariable();
+    }
+
+    private static void ofEachVariable() {
+        for (int owner = 0; owner < 6; owner++) {
+            for (int name = 0; name < 6; name++) {
+                if (owner != name) {
+                    int third = free(owner, name);
+                    int[] shares = {MAKE, owner, AFFINE, SHARE, name, owner};
+                    int[] loan = {MAKE, owner, AFFINE, LEND, name, owner};
+                    EDGES.fault("changed", Edges.ops(Edges.all(shares, Edges.lot(WRITE, owner, 0, READ, name, 0))), 4, BORROWED);
+                    EDGES.fault("freed", Edges.ops(Edges.all(shares, Edges.lot(FREE, owner, 0, READ, name, 0))), 4, BORROWED);
+                    EDGES.fault("read", Edges.ops(Edges.all(shares, Edges.lot(READ, owner, 0, READ, name, 0))), 4, 0);
+                    EDGES.fault("shared anew", Edges.ops(Edges.all(shares, Edges.lot(WRITE, owner, 0, SHARE, name, owner, READ, name, 0))), 5, 0);
+                    EDGES.fault("moved over the owner", Edges.ops(Edges.all(shares, Edges.lot(MOVE, owner, name, READ, owner, 0))), 4, BORROWED);
+                    EDGES.fault("shared over the owner", Edges.ops(Edges.all(shares, Edges.lot(SHARE, owner, name, READ, owner, 0))), 4, BORROWED);
+                    EDGES.fault("a loan, read by its owner", Edges.ops(Edges.all(loan, Edges.lot(READ, owner, 0, READ, name, 0))), 4, BORROWED);
+                    EDGES.fault("a loan, lent again", Edges.ops(Edges.all(loan, Edges.lot(LEND, third, owner, READ, name, 0))), 4, BORROWED);
+                    EDGES.fault("the second loan", Edges.ops(Edges.all(loan, Edges.lot(LEND, third, owner, WRITE, third, 0))), 4, 0);
+                    EDGES.fault("a loan, moved on", Edges.ops(Edges.all(loan, Edges.lot(MOVE, third, name, WRITE, third, 0))), 4, 0);
+                    EDGES.fault("lent anew", Edges.ops(Edges.all(loan, Edges.lot(READ, owner, 0, LEND, name, owner, READ, name, 0))), 5, 0);
+                }
+            }
         }
     }
 
@@ -705,11 +743,15 @@ final class RunEdges implements Words {
         return x;
     }
 
+    /** By the last ones the first state is 0, -1, 1, the lowest, the highest, 65535 and 65536. */
+    private static final int[] SEEDS = {0, 1, -1, 2, 12345, 65535, 65536, 1 << 30, Integer.MAX_VALUE, Integer.MIN_VALUE, 987654321,
+        -59267453, 230538014, -349072920, 2088216195, -1916945634, -115164386, -404969853};
+
     private static void drawn() {
         EDGES.says("Promise 15", "Each time a state, at first the seed, becomes itself times 1103515245, and 12345 more, with overflow; shifted to the right by 16 without keeping the sign, divided by how many processes are RUNNING and do not wait, the rest tells which of these, by their numbers, does its next op; the coin is true if the state is below 0.");
         java.math.BigInteger factor = java.math.BigInteger.valueOf(1103515245);
         for (int processes = 1; processes <= 3; processes++) {
-            for (int seed : new int[] {0, 1, -1, 2, 12345, 65535, 65536, 1 << 30, Integer.MAX_VALUE, Integer.MIN_VALUE, 987654321, -987654321}) {
+            for (int seed : SEEDS) {
                 Lineartide x = tossing(processes);
                 int[] place = new int[3];
                 java.math.BigInteger state = java.math.BigInteger.valueOf(seed);
@@ -717,7 +759,7 @@ final class RunEdges implements Words {
                     state = java.math.BigInteger.valueOf(state.multiply(factor).add(java.math.BigInteger.valueOf(12345)).intValue());
                     int high = state.mod(java.math.BigInteger.ONE.shiftLeft(32)).shiftRight(16).intValue();
                     place[high % processes] = place[high % processes] == 0 && state.signum() >= 0 ? 1 : 0;
-                    if (i % 10 == 9) {
+                    if (i == 0 || i % 10 == 9) {
                         Lineartide y = tossing(processes);
                         EDGES.due("so many ops", i + 1, y.run(seed, i + 1));
                         for (int p = 0; p < 3; p++) {

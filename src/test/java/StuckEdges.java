@@ -117,6 +117,90 @@ final class StuckEdges implements Words {
         EDGES.due("WAIT", 1, y.stuck());
     }
 
+    /**
+     * Process 0 leaves two ways waiting at a side of a channel, and one at a side of another one, ahead of a value of a
+     * kind over the third channel, which process 1 takes first. By the other way it would wait for values that never come.
+     */
+    private static void whatWaits() {
+        EDGES.says("Being stuck", "and which ways and values wait at each side.");
+        for (int first = 0; first < 3; first++) {
+            for (int second = 0; second < 3; second++) {
+                for (int turned = 0; turned < 4 && first != second; turned++) {
+                    for (int kind = MANY; kind <= LINEAR; kind++) {
+                        for (int way = 0; way < 2; way++) {
+                            Lineartide x = crowded(first, second, turned, kind, way);
+                            EDGES.error("the picking one", x, 0, NONE, 0);
+                            EDGES.error("the waiting one", x, 1, NONE, 0);
+                            EDGES.due("two ways at " + first + ", one at " + second + ", turned " + turned, 0, x.stuck());
+                        }
+                    }
+                }
+            }
+        }
+    }
+
+    private static int[] picking(boolean right, int way, int good, int bad) {
+        return Edges.lot(right ? OFFERS : PICKS, way == 0 ? good : bad, way == 0 ? bad : good);
+    }
+
+    private static Lineartide crowded(int first, int second, int turned, int kind, int way) {
+        Lineartide x = new Lineartide();
+        int third = 3 - first - second;
+        int name = (first + 2 * turned + kind) % 6;
+        int[] ends = {ENDS, 0, 0};
+        for (int c = 0; c < 3; c++) {
+            boolean right = c == first && (turned & 1) != 0 || c == second && (turned & 2) != 0;
+            int[] gives = {right ? GETS : GIVES, c == third ? kind : MANY, 1};
+            if (c == third) {
+                Edges.tell(x, c, Edges.all(gives, ends));
+            } else if (c == first) {
+                Edges.tell(x, c, Edges.all(picking(right, way, 2, 3), ends, picking(right, way, 1, 3), gives));
+            } else {
+                Edges.tell(x, c, Edges.all(picking(right, way, 1, 2), ends, gives));
+            }
+            x.channel(c, right ? 1 : 0, right ? 0 : 1);
+        }
+        Edges.add(x, 0, PICK, first, way, PICK, first, way, PICK, second, way, MAKE, name, kind, SEND, third, name);
+        Edges.add(x, 1, TAKE, third, 4, FREE, 4, 0);
+        if (way == 1) {
+            Edges.add(x, 1, WAIT, second, 5, TAKE, second, 0, JUMP, 0, 5, WAIT, first, 8, TAKE, first, 0, JUMP, 0, 15, WAIT, first, 15,
+                TAKE, first, 0);
+        } else {
+            Edges.add(x, 1, WAIT, second, 6, WAIT, first, 8, WAIT, first, 8, STOP, 0, 0, TAKE, second, 0, JUMP, 0, 3, TAKE, first, 0);
+        }
+        return x;
+    }
+
+    private static void askedAgain() {
+        EDGES.says("Promise 12", "Returns whether the processes can be stuck.");
+        // one object: ops are added and taken away, so that 729 to 1331 layouts come and go
+        Lineartide x = new Lineartide();
+        int[] count = new int[3];
+        for (int i = 0; i < 60; i++) {
+            int process = i % 3;
+            int want = 7 + i * 7 % 3 + i / 9 % 2;
+            while (count[process] < want) {
+                x.op(process, MAKE, 0, MANY);
+                count[process]++;
+            }
+            while (count[process] > want) {
+                x.unop(process);
+                count[process]--;
+            }
+            EDGES.due("the question " + i, due((count[0] + 2) * (count[1] + 2) * (count[2] + 2)), x.stuck());
+        }
+        Lineartide y = bothWait(9, 9, 7);
+        for (int i = 0; i < 20; i++) {
+            EDGES.due("900, again", 1, y.stuck());
+            y.op(2, MAKE, 0, MANY);
+            EDGES.due("1000, again", 1, y.stuck());
+            y.op(2, MAKE, 0, MANY);
+            EDGES.due("1100, again", NONE, y.stuck());
+            y.unop(2);
+            y.unop(2);
+        }
+    }
+
     private static void whoIsStuck() {
         EDGES.says("Being stuck", "They are stuck, if none can do anything, and not all have ended.");
         EDGES.due("all end", 0, new Lineartide().stuck());
@@ -180,6 +264,14 @@ final class StuckEdges implements Words {
             EDGES.due("a STOP at the end takes no place of its own", 0, x.stuck());
             x.op(1, MAKE, 0, 0);
             EDGES.due("an op more does", NONE, x.stuck());
+        }
+        for (int more = 0; more < 2; more++) {
+            Lineartide x = new Lineartide();
+            makes(x, 0, 9);
+            makes(x, 1, 8);
+            makes(x, 2, 8 + more);
+            x.op(0, JUMP, 0, 0);
+            EDGES.due("a layout that is come to again, as the first one is, counts once", due(1000 + 100 * more), x.stuck());
         }
         Lineartide unreached = new Lineartide();
         makes(unreached, 0, 8);
@@ -282,6 +374,8 @@ final class StuckEdges implements Words {
         anyOrder();
         eachWay();
         room();
+        whatWaits();
+        askedAgain();
         whoIsStuck();
         layouts();
         tooMany();
