@@ -693,10 +693,7 @@ final class RunEdges implements Words {
         EDGES.is("its end", x, 0, DONE, 0, 1);
         EDGES.says("Promise 14", "`coin`: by MAYBE: whether it goes on with the op b");
         for (int what : new int[] {MAYBE, JUMP, MAKE}) {
-            Lineartide y = Edges.ops(what, 0, 2, MAKE, 0, 0, MAKE, 0, 0);
-            if (what == MAKE) {
-                y = Edges.ops(MAKE, 0, 2, FREE, 0, 0, STOP, 0, 0);
-            }
+            Lineartide y = Edges.ops(what, 0, 2, FREE, 0, 0, STOP, 0, 0);
             y.begin();
             y.go(0, true);
             EDGES.due("with the coin, op " + what, what == MAKE ? 1 : 2, y.place(0));
