@@ -108,6 +108,25 @@ public final class FaceTest {
         }
     }
 
+    /** The face as the document prints it, told as it is told here. */
+    private static void document() throws java.io.IOException {
+        List<String> methods = new ArrayList<>();
+        List<String> constants = new ArrayList<>();
+        for (String line : Files.readAllLines(Path.of("../shared/DOC.md"))) {
+            String told = line.trim().replaceAll(";$", "");
+            if (told.startsWith("public static final int ")) {
+                for (String constant : told.substring("public static final int ".length()).split(", ")) {
+                    constants.add(constant.replace(" = ", " "));
+                }
+            } else if (told.matches("public \\w+ \\w+\\(.*")) {
+                String types = told.replaceAll("(int|boolean) \\w+(?=[,)])", "$1");
+                methods.add(types.substring("public ".length()).replace(" throws", "").replaceAll("(?<=Exception),", ""));
+            }
+        }
+        same("method of the document", METHODS, methods);
+        same("constant of the document", CONSTANTS, constants);
+    }
+
     private static void text() throws java.io.IOException {
         List<String> lines = Files.readAllLines(Path.of("src/main/java/Lineartide.java"));
         for (int i = 0; i < lines.size(); i++) {
@@ -128,6 +147,7 @@ public final class FaceTest {
 
     public static void main(String[] args) throws Exception {
         face();
+        document();
         text();
         EXPECT.end();
     }

@@ -27,15 +27,21 @@ public final class OracleTest {
         long make();
     }
 
+    /** By the class itself: what the machine throws is of a class below these, and ends the test. */
     private static long answer(Call call) {
         try {
             return call.make();
-        } catch (IndexOutOfBoundsException e) {
-            return -1001;
-        } catch (IllegalArgumentException e) {
-            return -1002;
-        } catch (IllegalStateException e) {
-            return -1003;
+        } catch (RuntimeException e) {
+            if (e.getClass() == IndexOutOfBoundsException.class) {
+                return -1001;
+            }
+            if (e.getClass() == IllegalArgumentException.class) {
+                return -1002;
+            }
+            if (e.getClass() == IllegalStateException.class) {
+                return -1003;
+            }
+            throw e;
         }
     }
 
